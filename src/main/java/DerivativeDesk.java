@@ -298,10 +298,10 @@ public final class DerivativeDesk {
      * lies at lower ids than the term, and what OR and AND have is in rising order.
      */
     private static final class Terms {
-        private static final int FIRST_ROOM = 2048;
-        private static final int FIRST_KIDS_ROOM = 8192;
-        private static final int BUCKETS = 4096;
-        private static final int BUCKET_SHIFT = 20;
+        private static final int FIRST_ROOM = 1024;
+        private static final int FIRST_KIDS_ROOM = 2048;
+        private static final int BUCKETS = 1024;
+        private static final int BUCKET_SHIFT = 22;
         private static final int MIX = 0x9E3779B1;
 
         private int[] sort = new int[FIRST_ROOM];
