@@ -300,13 +300,16 @@ public final class DerivativeDesk {
     private static final class Terms {
         private static final int FIRST_ROOM = 1024;
         private static final int FIRST_KIDS_ROOM = 2048;
+        // Below the first room, so that what nobody needs goes before rows grow.
+        private static final int FIRST_LIMIT = 768;
+        private static final int FIRST_KIDS_LIMIT = 1536;
         private static final int BUCKETS = 1024;
         private static final int BUCKET_SHIFT = 22;
         private static final int MIX = 0x9E3779B1;
 
         private int[] sort = new int[FIRST_ROOM];
         private int[] size = new int[FIRST_ROOM];
-        private boolean[] nullable = new boolean[FIRST_ROOM];
+        private int[] nullable = new int[FIRST_ROOM];
         private int[] kidsFrom = new int[FIRST_ROOM];
         private int[] kidsCount = new int[FIRST_ROOM];
         private int[] hash = new int[FIRST_ROOM];
@@ -322,8 +325,8 @@ public final class DerivativeDesk {
         private final Gathering gathering = new Gathering();
         private int used = FIRST_MADE;
         private int kidsUsed = 1;
-        private int usedLimit = FIRST_ROOM;
-        private int kidsLimit = FIRST_KIDS_ROOM;
+        private int usedLimit = FIRST_LIMIT;
+        private int kidsLimit = FIRST_KIDS_LIMIT;
 
         Terms() {
             Arrays.fill(heads, UNKNOWN);
@@ -334,10 +337,10 @@ public final class DerivativeDesk {
             }
             sort[NO_WORD] = SORT_NONE;
             sort[EMPTY_WORD] = SORT_EMPTY;
-            nullable[EMPTY_WORD] = true;
+            nullable[EMPTY_WORD] = 1;
             sort[ALL_WORDS] = SORT_NOT;
             size[ALL_WORDS] = 2;
-            nullable[ALL_WORDS] = true;
+            nullable[ALL_WORDS] = 1;
             kidsCount[ALL_WORDS] = 1;
             kids[0] = NO_WORD;
         }
@@ -351,7 +354,7 @@ public final class DerivativeDesk {
         }
 
         boolean isNullable(int term) {
-            return nullable[term];
+            return nullable[term] == 1;
         }
 
         int countOf(int term) {
@@ -449,7 +452,7 @@ public final class DerivativeDesk {
 
         private boolean asksForMore(int term, int letter) {
             int before = pending.size();
-            boolean firstOnly = sort[term] == SORT_CAT && !nullable[kid(term, 0)];
+            boolean firstOnly = sort[term] == SORT_CAT && nullable[kid(term, 0)] == 0;
             int needed = firstOnly ? 1 : kidsCount[term];
             for (int i = 0; i < needed; i++) {
                 int part = kid(term, i);
@@ -466,7 +469,7 @@ public final class DerivativeDesk {
                     return (term >> letter & 1) == 1 ? EMPTY_WORD : NO_WORD;
                 case SORT_CAT:
                     int begun = cat(kidAfter(term, 0, letter), kid(term, 1));
-                    if (!nullable[kid(term, 0)]) {
+                    if (nullable[kid(term, 0)] == 0) {
                         return begun;
                     }
                     gathering.begin(SORT_OR);
@@ -550,10 +553,10 @@ public final class DerivativeDesk {
                 kids[kidsUsed] = part;
                 kidsUsed++;
                 total += size[part];
-                nullables += nullable[part] ? 1 : 0;
+                nullables += nullable[part];
             }
             size[term] = total;
-            nullable[term] = isNullableWith(sortToBe, nullables, own.size());
+            nullable[term] = isNullableWith(sortToBe, nullables, own.size()) ? 1 : 0;
             for (int letter = 0; letter < LETTERS; letter++) {
                 after[term * LETTERS + letter] = UNKNOWN;
             }
@@ -613,8 +616,8 @@ public final class DerivativeDesk {
             moveMarked();
             renumber(slots, slots.length);
             renumber(found, foundCount);
-            usedLimit = Math.max(FIRST_ROOM, used * 2);
-            kidsLimit = Math.max(FIRST_KIDS_ROOM, kidsUsed * 2);
+            usedLimit = Math.max(FIRST_LIMIT, used * 2);
+            kidsLimit = Math.max(FIRST_KIDS_LIMIT, kidsUsed * 2);
         }
 
         private void markRow(int[] row, int count) {
@@ -927,7 +930,9 @@ public final class DerivativeDesk {
 
         /** Each old part has a list of the new ones it falls into, by the old part the letter leads to. */
         private int splitByLetter(Machine machine, int letter, int parts) {
-            Arrays.fill(heads, 0, parts, UNKNOWN);
+            for (int old = 0; old < parts; old++) {
+                heads[old] = UNKNOWN;
+            }
             int made = 0;
             for (int state = 0; state < machine.count(); state++) {
                 int to = part[machine.next(state, letter)];
@@ -1129,7 +1134,7 @@ public final class DerivativeDesk {
             boolean any = false;
             for (int state = 0; state < count; state++) {
                 live[state] = machine.isAccepting(state);
-                any |= live[state];
+                any = any || live[state];
             }
             for (int length = 1; any && length <= count; length++) {
                 any = stepBack(machine);
@@ -1142,10 +1147,10 @@ public final class DerivativeDesk {
             for (int state = 0; state < machine.count(); state++) {
                 boolean leads = false;
                 for (int letter = 0; letter < LETTERS; letter++) {
-                    leads |= live[machine.next(state, letter)];
+                    leads = leads || live[machine.next(state, letter)];
                 }
                 nextLive[state] = leads;
-                any |= leads;
+                any = any || leads;
             }
             boolean[] spare = live;
             live = nextLive;
