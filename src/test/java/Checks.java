@@ -3,18 +3,22 @@ import java.util.function.LongSupplier;
 /** Counts the answers that are not as due and prints each. */
 final class Checks {
     private int wrong = 0;
+    private String sentence = "";
+
+    /** The sentence of the document that the next answers are about. */
+    void about(String words) {
+        sentence = words;
+    }
 
     void due(String call, long got, long want) {
         if (got != want) {
-            wrong++;
-            System.out.println(call + " answered " + got + ", due is " + want);
+            tell(call + " answered " + got + ", due is " + want);
         }
     }
 
     void isTrue(String what, boolean holds) {
         if (!holds) {
-            wrong++;
-            System.out.println("does not hold: " + what);
+            tell("does not hold: " + what);
         }
     }
 
@@ -29,8 +33,12 @@ final class Checks {
             }
             got = e.getClass().getName();
         }
+        tell(call + " answered " + got + ", due is " + want.getName());
+    }
+
+    private void tell(String fault) {
         wrong++;
-        System.out.println(call + " answered " + got + ", due is " + want.getName());
+        System.out.println(sentence.isEmpty() ? fault : fault + " [" + sentence + "]");
     }
 
     int wrong() {

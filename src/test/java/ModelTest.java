@@ -17,7 +17,7 @@ public final class ModelTest {
         random = new Random(seed);
         slots = 2 + random.nextInt(15);
         letters = 1 + random.nextInt(15);
-        calls = seed % 25 < 2 ? 480 : 100;
+        calls = seed % 25 < 2 ? CountedDesk.PROMISED_CALLS : 100;
         contrary = random.nextInt(4);
     }
 
@@ -72,8 +72,8 @@ public final class ModelTest {
     }
 
     private void askWitness() {
-        long length = twin.desk().witness(-1);
-        for (long i = -1; i <= length; i++) {
+        long length = Long.parseLong(twin.ask("witness", -1));
+        for (long i = 0; i <= length; i++) {
             twin.ask("witness", i);
         }
     }
