@@ -105,13 +105,18 @@ public final class RoomTest {
 
     private static void useAtRandom(DerivativeDesk desk, Random random) {
         int contrary = random.nextInt(5);
-        for (int call = 0; call < 512; call++) {
+        for (int call = 0; call < CountedDesk.PROMISED_CALLS - 1; call++) {
             int s = random.nextInt(16);
             int a = random.nextInt(16);
             int b = random.nextInt(16);
             int dice = random.nextInt(20);
-            if (call < 16 || dice == 0 && desk.look(s, 1) < 3) {
-                desk.letters(call < 16 ? call : s, 1 << random.nextInt(4));
+            if (call < 16) {
+                desk.letters(call, 1 << random.nextInt(4));
+            } else if (dice == 0) {
+                call++;
+                if (desk.look(s, 1) < 3) {
+                    desk.letters(s, 1 << random.nextInt(4));
+                }
             } else if (dice < 7) {
                 desk.join(s, a, b, random.nextInt(8) < contrary ? 2 : random.nextInt(2));
             } else if (dice < 10) {
