@@ -20,6 +20,7 @@ public final class AnswersBoundaryTest {
         test.statesOfMost();
         test.statesOfLargest();
         test.statesFollowTheSlot();
+        test.lastOfMostStates();
         test.languagesOfFewest();
         test.languagesOfMost();
         test.languagesOfTooLarge();
@@ -234,6 +235,21 @@ public final class AnswersBoundaryTest {
         checks.due("151", desk.states(0), -1);
         checks.due("refused", desk.join(0, 0, 0, CountedDesk.CAT), -1);
         checks.due("151", desk.states(0), -1);
+    }
+
+    private void lastOfMostStates() {
+        checks.about("states: the last of 150 counts as all others do, here the only one that has the empty word");
+        CountedDesk desk = with(".".repeat(10) + "(" + rest(4, 3) + "&" + rest(5, 4) + "&" + rest(7, 6) + ")");
+        checks.due("states", desk.states(0), 150);
+        checks.due("languages", desk.languages(0), 150);
+        checks.due("ends", desk.ends(0), 0);
+        checks.due("equal to NONE", desk.equal(0, 1), 0);
+        witnessIs(desk, "0".repeat(149));
+        desk.turn(0, 0, CountedDesk.NOT);
+        desk.turn(1, 1, CountedDesk.NOT);
+        checks.due("NOT of it, states", desk.states(0), 150);
+        checks.due("NOT of it, equal to all", desk.equal(1, 0), 0);
+        witnessIs(desk, "0".repeat(149));
     }
 
     private void languagesOfFewest() {

@@ -9,6 +9,7 @@ import java.util.TreeSet;
 /** The public face is the document's and no more. */
 public final class FaceTest {
     private static final String IOOB = "IndexOutOfBoundsException";
+    private static final String CONSTANT = "public static final int DerivativeDesk.NONE";
     private static final String BOTH = "IllegalArgumentException,IndexOutOfBoundsException";
 
     public static void main(String[] args) {
@@ -42,9 +43,14 @@ public final class FaceTest {
             checks.isTrue("public constructor without parameters",
                 Modifier.isPublic(made.getModifiers()) && made.getParameterCount() == 0);
         }
+        checks.due("constructors", DerivativeDesk.class.getDeclaredConstructors().length, 1);
         for (Field field : DerivativeDesk.class.getDeclaredFields()) {
             checks.isTrue("private or NONE: " + field,
-                Modifier.isPrivate(field.getModifiers()) || field.getName().equals("NONE"));
+                Modifier.isPrivate(field.getModifiers()) || field.toString().equals(CONSTANT));
+        }
+        for (Class<?> inner : DerivativeDesk.class.getDeclaredClasses()) {
+            checks.isTrue("static, private or package-visible: " + inner, Modifier.isStatic(inner.getModifiers())
+                && !Modifier.isPublic(inner.getModifiers()) && !Modifier.isProtected(inner.getModifiers()));
         }
         checks.due("NONE", DerivativeDesk.NONE, -1);
         checks.end();
